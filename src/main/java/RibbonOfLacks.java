@@ -1167,7 +1167,8 @@ public final class RibbonOfLacks {
 
         /** The shortest first, then by exchanges from the lowest up. */
         boolean find(World world) {
-            for (length = 2; length <= world.exchanges; length++) {
+            for (int wanted = 2; wanted <= world.exchanges; wanted++) {
+                length = wanted;
                 if (extend(world, 0, 0)) {
                     return true;
                 }

@@ -220,10 +220,15 @@ public final class PromiseTests {
     private static void things() {
         RibbonOfLacks x = new RibbonOfLacks();
         x.bind(1, 3);
+        x.bind(0, 8);
+        due("thing in no ribbon, too weak", x.thing(3, 3), NONE);
         due("what follows is not there", x.thing(4, 2), 0);
         due("what does not follow is there", x.thing(3, 2), 1);
         due("thing in a ribbon", x.thing(1, 3), 1);
         due("thing that follows is in none", x.thing(2, 3), NONE);
+        x.undo();
+        x.bind(0, 10);
+        due("thing in the first ribbon", x.thing(3, 3), 0);
         due("thing -1", x.thing(-1, 0), BAD);
         due("thing 5", x.thing(5, 0), BAD);
         due("thing what -1", x.thing(0, -1), BAD);
@@ -280,6 +285,8 @@ public final class PromiseTests {
         due("strength -1", x.strength(-1), BAD);
         due("strength 32", x.strength(32), BAD);
         due("strength least", x.strength(MIN), BAD);
+        due("only sounds count twice", laid("t5,0;t5,1;b1;").strength(3), 10);
+        due("only sounds among two", laid("t5,2;t5,1;t5,3;t5,1;b1;").strength(15), 30);
         due("three sounds", laid("t20,1;t1,1;t3,1;t2,0;b1;").strength(15), 50);
     }
 
@@ -434,6 +441,7 @@ public final class PromiseTests {
         due("what fails is not undone", x.count(6), 8);
         for (int i = 7; i >= 0; i--) {
             due("undo", x.undo(), i);
+            due("days then", x.count(5), i + 2);
         }
         due("the first two stay", x.count(5), 2);
         due("no more than eight", x.undo(), NO);
@@ -500,6 +508,8 @@ public final class PromiseTests {
         due("wrong all the same", y.all(3), BAD);
         y.bind(0, 1);
         due("none for two of them", y.all(1), NONE);
+        due("strong enough, but not to be parted", laid("t9,0;t1,0;b5;b5;").all(-1), NONE);
+        due("too strong for one, too weak for two", laid("t9,0;t9,0;t3,0;b10;b10;").all(-2), NONE);
         due("two alike", laid("t5,0;t5,0;b5;b5;").all(0) * 10 + laid("t5,0;t5,0;b5;b5;").all(1), 12);
         RibbonOfLacks z = laid("t2,0;t9,0;t2,0;t7,0;b9;b2;");
         due("fewest used", z.all(-1), 3);
@@ -524,6 +534,7 @@ public final class PromiseTests {
         due("more 19", x.more(19), 1);
         due("more 40", x.more(40), 1);
         due("more 41", x.more(41), 0);
+        due("more 90", x.more(90), 0);
         due("more 0", x.more(0), BAD);
         due("more 91", x.more(91), BAD);
         due("more -1", x.more(-1), BAD);
