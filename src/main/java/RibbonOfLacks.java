@@ -953,6 +953,9 @@ public final class RibbonOfLacks {
         }
 
         private void forgetOldest() {
+            if (states.length < 1) {
+                return;
+            }
             State oldest = states[0];
             for (int i = 1; i < states.length; i++) {
                 states[i - 1] = states[i];

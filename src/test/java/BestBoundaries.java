@@ -333,6 +333,9 @@ public final class BestBoundaries {
         due("one loose: cost", x.all(-2), 2);
         due("one loose: its ribbon", x.all(0), 2);
         due("one loose: the others are bound", x.all(1) + x.all(2), 0);
+        due("bound with what is asked", x.bind(0, x.all(0)), 6);
+        due("bound, asked again", x.all(0), 0);
+        x.undo();
         x.undo();
         x.bind(2, 6);
         due("one loose: what is left for it", x.all(0), 1);

