@@ -1172,24 +1172,24 @@ public final class RibbonOfLacks {
         boolean find(World world) {
             for (int wanted = 2; wanted <= world.exchanges; wanted++) {
                 length = wanted;
-                if (extend(world, 0, 0)) {
+                if (extend(this, world, 0, 0)) {
                     return true;
                 }
             }
             return false;
         }
 
-        private boolean extend(World world, int depth, int used) {
-            if (depth < 0 || depth >= MOST || depth >= length) {
-                return depth == length && isGain(world);
+        private static boolean extend(GainSearch search, World world, int depth, int used) {
+            if (depth < 0 || depth >= MOST || depth >= search.length) {
+                return depth == search.length && search.isGain(world);
             }
             for (int e = 0; e < world.exchanges; e++) {
                 boolean isUsed = (used >> e & 1) == 1;
-                if (isUsed || depth > 0 && world.givenBy(path[depth - 1]) != world.takenBy(e)) {
+                if (isUsed || depth > 0 && world.givenBy(search.exchangeAt(depth - 1)) != world.takenBy(e)) {
                     continue;
                 }
-                path[depth] = e;
-                if (extend(world, depth + 1, used | 1 << e)) {
+                search.path[depth] = e;
+                if (extend(search, world, depth + 1, used | 1 << e)) {
                     return true;
                 }
             }
